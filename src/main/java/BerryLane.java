@@ -830,17 +830,21 @@ public final class BerryLane {
         }
     }
 
-    /** The way by which most comes to a can, by a table over: bushes been at, the last one, moments left. */
+    /**
+     * The way by which most comes to a can. The order of bushes costs moments alone, so of each
+     * set of bushes the shortest way through it counts, and what the moments that are left bring there.
+     */
     private static final class BestWay {
         private static final int TIMES = MOST_MOMENTS + 1;
         private static final int START = MOST_BUSHES;
-        private static final int SETS_OF_OTHERS = 1 << MOST_BUSHES - 1;
+        private static final int SETS = 1 << MOST_BUSHES;
 
         int most;
         int stops;
         final int[] stopBush = new int[MOST_BUSHES];
         final int[] stopHandfuls = new int[MOST_BUSHES];
-        private final int[] mostBeyond = new int[MOST_BUSHES * SETS_OF_OTHERS * TIMES];
+        private final int[] shortest = new int[(MOST_BUSHES + 1) * SETS];
+        private final int[] gathered = new int[SETS * TIMES];
         private final int[] gains = new int[MOST_BUSHES * TIMES];
         private final int[] useful = new int[MOST_BUSHES];
         private final int[] handfulMoments = new int[MOST_BUSHES];
@@ -858,8 +862,13 @@ public final class BerryLane {
                 measureGains(who, lane.bushes[b], b);
                 measureWays(lane, who, b);
             }
-            fillMostBeyond(moments);
-            most = mostFrom(0, START, moments);
+            for (int b = 0; b < bushCount; b++) {
+                for (int lesser = 0; lesser < 1 << b; lesser++) {
+                    fillShortest(lesser | 1 << b);
+                    fillGathered(lesser, b, moments);
+                }
+            }
+            most = mostBeyond(0, START, moments);
             return most;
         }
 
@@ -891,45 +900,53 @@ public final class BerryLane {
             wayMoments[START * MOST_BUSHES + to] = who.momentsTo(bush);
         }
 
-        /** The last bush is always of the set, so its bit is left out to halve the table. */
-        private static int slot(int set, int lastBush, int time) {
-            int below = set & (1 << lastBush) - 1;
-            int above = set >> lastBush + 1 << lastBush;
-            return (lastBush * SETS_OF_OTHERS + (below | above)) * TIMES + time;
-        }
-
-        /**
-         * Sets with one more bush are greater numbers, so going down all that is asked stands
-         * already; and each bush of a set took a moment at least, so no more time can be left.
-         */
-        private void fillMostBeyond(int moments) {
-            for (int set = (1 << bushCount) - 1; set > 0; set--) {
-                int longest = moments - Integer.bitCount(set);
+        /** Moments of the shortest way through a set from each bush and from the start; smaller sets stand already. */
+        private void fillShortest(int set) {
+            for (int from = 0; from <= MOST_BUSHES; from++) {
+                int least = NONE;
                 for (int b = 0; b < bushCount; b++) {
                     if ((set >> b & 1) == 1) {
-                        for (int time = 0; time <= longest; time++) {
-                            mostBeyond[slot(set, b, time)] = mostFrom(set, b, time);
-                        }
+                        int moments = wayMoments[from * MOST_BUSHES + b] + shortest[b * SETS + (set ^ 1 << b)];
+                        least = least == NONE ? moments : Math.min(least, moments);
                     }
                 }
+                shortest[from * SETS + set] = least;
             }
         }
 
-        private int mostFrom(int set, int from, int time) {
-            int top = 0;
-            for (int b = 0; b < bushCount; b++) {
-                if ((set >> b & 1) == 0) {
-                    int rest = time - wayMoments[from * MOST_BUSHES + b] - handfulMoments[b];
-                    for (int h = 1; h <= useful[b] && rest >= 0; h++) {
-                        top = Math.max(top, gains[b * TIMES + h] + mostBeyond[slot(set | 1 << b, b, rest)]);
-                        rest -= handfulMoments[b];
+        /**
+         * The most of one handful or more at each of the lesser bushes and at b, ways aside, by
+         * moments; NONE: they are too few for it.
+         */
+        private void fillGathered(int lesser, int b, int moments) {
+            int set = lesser | 1 << b;
+            for (int time = 0; time <= moments; time++) {
+                int top = NONE;
+                int rest = time - handfulMoments[b];
+                for (int h = 1; h <= useful[b] && rest >= 0; h++) {
+                    int there = gathered[lesser * TIMES + rest];
+                    if (there != NONE) {
+                        top = Math.max(top, gains[b * TIMES + h] + there);
                     }
+                    rest -= handfulMoments[b];
+                }
+                gathered[set * TIMES + time] = top;
+            }
+        }
+
+        private int mostBeyond(int beenAt, int from, int time) {
+            int open = (1 << bushCount) - 1 & ~beenAt;
+            int top = 0;
+            for (int set = open; set > 0; set = set - 1 & open) {
+                int rest = time - shortest[from * SETS + set];
+                if (rest >= 0) {
+                    top = Math.max(top, gathered[set * TIMES + rest]);
                 }
             }
             return top;
         }
 
-        /** The first of the ways that bring most; findMost has filled the table for it. */
+        /** The first of the ways that bring most; findMost has filled the tables for it. */
         void findStops(int moments) {
             stops = 0;
             been = 0;
@@ -955,10 +972,9 @@ public final class BerryLane {
 
         /** The fewest at a bush by which the aim can still be met, 0 if it can't be met there. */
         private int fewestHandfuls(int b) {
-            int set = been | 1 << b;
             int rest = timeLeft - wayMoments[last * MOST_BUSHES + b] - handfulMoments[b];
             for (int h = 1; h <= useful[b] && rest >= 0; h++) {
-                if (gains[b * TIMES + h] + mostBeyond[slot(set, b, rest)] == aim) {
+                if (gains[b * TIMES + h] + mostBeyond(been | 1 << b, b, rest) == aim) {
                     return h;
                 }
                 rest -= handfulMoments[b];
