@@ -233,6 +233,11 @@ public final class DoneTest {
             }
             Due.is("the day", drifted.told(7), 7);
         }
+        BerryLane longest = Due.lane(text);
+        BerryLane done = Due.lane(text);
+        Due.is("drift(99)", longest.drift(99), followDraws(done, 0, 99));
+        Due.is("the seed", longest.seed(0), lastSeed);
+        Due.is("the day", longest.told(7), 99);
         BerryLane alone = Due.lane("l1 1 1;b0 0 0 8 8 8;");
         alone.seed(1);
         alone.drift(1);

@@ -14,6 +14,8 @@ public final class TextTest {
         firstFaultWins();
         faultChangesNothing();
         newLaneForgets();
+        earlierTextsAreGone();
+        longestTexts();
         toldOf();
         bushOf();
         pickerOf();
@@ -221,6 +223,43 @@ public final class TextTest {
         Due.is("no pickers", x.told(4), 0);
         Due.is("can holds", x.told(5), 999);
         Due.is("day without a law", x.day(1, true), BerryLane.NOT);
+    }
+
+    /** A text ends where it ends, whatever a longer one had there before it. */
+    private static void earlierTextsAreGone() {
+        String[] earlier = {"l1 1 1;", "l1 1 123;", "l1 1 1      ;", "l1 1 1;;;;;;"};
+        for (String before : earlier) {
+            BerryLane x = new BerryLane();
+            Due.feed(x, before);
+            x.lane();
+            Due.feed(x, "l1 1 1");
+            Due.is("behind '" + before + "': lane()", x.lane(), -11);
+            Due.is("behind '" + before + "': fault()", x.fault(), 6);
+            Due.feed(x, before);
+            x.lane();
+            Due.feed(x, "l1");
+            Due.is("behind '" + before + "': lane()", x.lane(), -11);
+            Due.is("behind '" + before + "': fault()", x.fault(), 2);
+            Due.feed(x, before);
+            x.lane();
+            Due.feed(x, "l2 2 2;");
+            Due.is("behind '" + before + "': lane()", x.lane(), 0);
+            Due.is("behind '" + before + "': M", x.told(0), 2);
+        }
+        BerryLane x = Due.lane("l1 2 3;");
+        x.lane();
+        Due.is("no law: M", x.told(0), 0);
+        Due.is("no law: R", x.told(1), 0);
+        Due.is("no law: S", x.told(2), 0);
+    }
+
+    private static void longestTexts() {
+        right(" ".repeat(223) + LAW, 0);
+        right(LAW + " ".repeat(223), 0);
+        wrong(" ".repeat(224) + "l1 1 1", 1, 230);
+        wrong("l1 1 1" + " ".repeat(224), 1, 230);
+        wrong(" ".repeat(229) + "l", 1, 230);
+        wrong("l1 1 " + "1".repeat(225), 2, 5);
     }
 
     private static void toldOf() {
