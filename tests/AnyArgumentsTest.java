@@ -1,3 +1,4 @@
+import java.util.List;
 import java.util.Random;
 
 /** No call throws or hangs, whatever its arguments and the state; and what is refused changes nothing. */
@@ -19,45 +20,16 @@ public final class AnyArgumentsTest {
             Due.feed(x, TEXTS[i % TEXTS.length]);
             x.lane();
             for (int k = 0; k < 250; k++) {
-                int[] before = look(x);
+                List<Integer> before = Look.at(x);
                 int answer = call(x, CHANCE.nextInt(31));
                 if (answer <= BerryLane.UNKNOWN && answer >= BerryLane.FULL) {
-                    unchanged(before, look(x));
+                    Look.same("what is refused changes nothing", Look.at(x), before);
                 } else {
                     Due.is("an answer is no smaller than -13: " + answer, answer >= -13 ? 1 : 0, 1);
                 }
             }
         }
         Due.end("AnyArgumentsTest");
-    }
-
-    private static int[] look(BerryLane x) {
-        int[] all = new int[12 + 6 * 6 + 4 * 8 + 2];
-        int n = 0;
-        for (int what = 0; what < 12; what++) {
-            all[n++] = x.told(what);
-        }
-        for (int b = 0; b < 6; b++) {
-            for (int what = 0; what < 6; what++) {
-                all[n++] = x.bush(b, what);
-            }
-        }
-        for (int p = 0; p < 4; p++) {
-            for (int what = 0; what < 8; what++) {
-                all[n++] = x.picker(p, what);
-            }
-        }
-        int seed = x.seed(0);
-        x.seed(seed);
-        all[n++] = seed;
-        all[n++] = x.fault();
-        return all;
-    }
-
-    private static void unchanged(int[] before, int[] after) {
-        for (int i = 0; i < before.length; i++) {
-            Due.is("what is refused changes nothing: number " + i, after[i], before[i]);
-        }
     }
 
     private static int any() {

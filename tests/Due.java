@@ -2,8 +2,14 @@
 final class Due {
     private static int asked = 0;
     private static int wrong = 0;
+    private static String sentence = "";
 
     private Due() {
+    }
+
+    /** The document's words that the answers from here on hold it to; they are printed with what is wrong. */
+    static void sentence(String words) {
+        sentence = "\"" + words + "\": ";
     }
 
     static void is(String call, long got, long want) {
@@ -11,7 +17,7 @@ final class Due {
         if (got != want) {
             wrong++;
             if (wrong <= 50) {
-                System.out.println(call + " answered " + got + ", due is " + want);
+                System.out.println(sentence + call + " answered " + got + ", due is " + want);
             }
         }
     }
@@ -31,6 +37,26 @@ final class Due {
         for (int i = 0; i < text.length(); i++) {
             x.feed(text.charAt(i));
         }
+    }
+
+    /** A text that becomes a lane of so many bushes. */
+    static BerryLane right(String text, int bushes) {
+        BerryLane x = new BerryLane();
+        feed(x, text);
+        is("lane() of '" + text + "'", x.lane(), bushes);
+        is("fault() of '" + text + "'", x.fault(), BerryLane.NONE);
+        is("letters behind '" + text + "'", x.told(6), 0);
+        return x;
+    }
+
+    /** A text that has a fault, of this number, at this letter. */
+    static void wrong(String text, int fault, int place) {
+        BerryLane x = new BerryLane();
+        feed(x, text);
+        is("lane() of '" + text + "'", x.lane(), -10 - fault);
+        is("fault() of '" + text + "'", x.fault(), place);
+        is("letters behind '" + text + "'", x.told(6), 0);
+        is("law behind '" + text + "'", x.told(0), 0);
     }
 
     static void end(String name) {

@@ -55,113 +55,97 @@ public final class TextTest {
         Due.is("feed behind lane()", x.feed('l'), 1);
     }
 
-    private static void right(String text, int bushes) {
-        BerryLane x = new BerryLane();
-        Due.feed(x, text);
-        Due.is("lane() of '" + text + "'", x.lane(), bushes);
-        Due.is("fault() of '" + text + "'", x.fault(), BerryLane.NONE);
-        Due.is("letters behind '" + text + "'", x.told(6), 0);
-    }
-
-    private static void wrong(String text, int fault, int place) {
-        BerryLane x = new BerryLane();
-        Due.feed(x, text);
-        Due.is("lane() of '" + text + "'", x.lane(), -10 - fault);
-        Due.is("fault() of '" + text + "'", x.fault(), place);
-        Due.is("letters behind '" + text + "'", x.told(6), 0);
-    }
-
     private static void wellFormedTexts() {
-        right("", 0);
-        right("   ", 0);
-        right(LAW, 0);
-        right("l20 20 20;", 0);
-        right("l001 020 01;", 0);
-        right("  l  1   1 1  ;  ", 0);
-        right("l 1 1 1;c 999 ;b 99 1 3 300 300 300 ; p 99 20 9 1 ;", 1);
-        right(LAW + "c1;" + PICKER + BUSH + PICKER + BUSH, 2);
-        right(LAW + BUSH + BUSH + BUSH + BUSH + BUSH + BUSH + PICKER + PICKER + PICKER + PICKER + "c5;", 6);
+        Due.right("", 0);
+        Due.right("   ", 0);
+        Due.right(LAW, 0);
+        Due.right("l20 20 20;", 0);
+        Due.right("l001 020 01;", 0);
+        Due.right("  l  1   1 1  ;  ", 0);
+        Due.right("l 1 1 1;c 999 ;b 99 1 3 300 300 300 ; p 99 20 9 1 ;", 1);
+        Due.right(LAW + "c1;" + PICKER + BUSH + PICKER + BUSH, 2);
+        Due.right(LAW + BUSH + BUSH + BUSH + BUSH + BUSH + BUSH + PICKER + PICKER + PICKER + PICKER + "c5;", 6);
     }
 
     private static void misplaced() {
-        wrong("b0 0 0 0 0 0;", 1, 0);
-        wrong("c5;", 1, 0);
-        wrong("p0 1 0 0;", 1, 0);
-        wrong("  c5;", 1, 2);
-        wrong("x", 1, 0);
-        wrong("1", 1, 0);
-        wrong(";", 1, 0);
-        wrong("L1 1 1;", 1, 0);
-        wrong("l", 1, 1);
-        wrong("l  ", 1, 3);
-        wrong("l1", 1, 2);
-        wrong("l1 1", 1, 4);
-        wrong("l1 1 1", 1, 6);
-        wrong("l1 1 1 ", 1, 7);
-        wrong("l1 1;", 1, 4);
-        wrong("l;", 1, 1);
-        wrong("l1 1 1 1;", 1, 7);
-        wrong("l1 1 1l", 1, 6);
-        wrong("l1 1 1;;", 1, 7);
-        wrong("l1 1 1;5", 1, 7);
-        wrong("l1 1 1;x", 1, 7);
-        wrong("l1 1 1;\t", 1, 7);
-        wrong("l1,1 1;", 1, 2);
-        wrong("l1 -1 1;", 1, 3);
-        wrong(LAW + "c;", 1, 8);
-        wrong(LAW + "c1", 1, 9);
-        wrong(LAW + "c1 1;", 1, 10);
-        wrong(LAW + "b0 0 0 0 0;", 1, 17);
-        wrong(LAW + "b0 0 0 0 0 0", 1, 19);
-        wrong(LAW + "p0 1 0;", 1, 13);
-        wrong(LAW + "p0 1 0 0p", 1, 15);
-        wrong("l1 1 1" + (char) 255, 1, 6);
-        wrong("l" + (char) 0, 1, 1);
+        Due.wrong("b0 0 0 0 0 0;", 1, 0);
+        Due.wrong("c5;", 1, 0);
+        Due.wrong("p0 1 0 0;", 1, 0);
+        Due.wrong("  c5;", 1, 2);
+        Due.wrong("x", 1, 0);
+        Due.wrong("1", 1, 0);
+        Due.wrong(";", 1, 0);
+        Due.wrong("L1 1 1;", 1, 0);
+        Due.wrong("l", 1, 1);
+        Due.wrong("l  ", 1, 3);
+        Due.wrong("l1", 1, 2);
+        Due.wrong("l1 1", 1, 4);
+        Due.wrong("l1 1 1", 1, 6);
+        Due.wrong("l1 1 1 ", 1, 7);
+        Due.wrong("l1 1;", 1, 4);
+        Due.wrong("l;", 1, 1);
+        Due.wrong("l1 1 1 1;", 1, 7);
+        Due.wrong("l1 1 1l", 1, 6);
+        Due.wrong("l1 1 1;;", 1, 7);
+        Due.wrong("l1 1 1;5", 1, 7);
+        Due.wrong("l1 1 1;x", 1, 7);
+        Due.wrong("l1 1 1;\t", 1, 7);
+        Due.wrong("l1,1 1;", 1, 2);
+        Due.wrong("l1 -1 1;", 1, 3);
+        Due.wrong(LAW + "c;", 1, 8);
+        Due.wrong(LAW + "c1", 1, 9);
+        Due.wrong(LAW + "c1 1;", 1, 10);
+        Due.wrong(LAW + "b0 0 0 0 0;", 1, 17);
+        Due.wrong(LAW + "b0 0 0 0 0 0", 1, 19);
+        Due.wrong(LAW + "p0 1 0;", 1, 13);
+        Due.wrong(LAW + "p0 1 0 0p", 1, 15);
+        Due.wrong("l1 1 1" + (char) 255, 1, 6);
+        Due.wrong("l" + (char) 0, 1, 1);
     }
 
     private static void wrongNumbers() {
-        wrong("l0 1 1;", 2, 1);
-        wrong("l21 1 1;", 2, 1);
-        wrong("l1 0 1;", 2, 3);
-        wrong("l1 21 1;", 2, 3);
-        wrong("l1 1 0;", 2, 5);
-        wrong("l1 1 21;", 2, 5);
-        wrong("l0001 1 1;", 2, 1);
-        wrong("l1 1 0000000001;", 2, 5);
-        wrong("l1 1 4294967297;", 2, 5);
-        wrong(LAW + "b100 0 0 0 0 0;", 2, 8);
-        wrong(LAW + "b0 2 0 0 0 0;", 2, 10);
-        wrong(LAW + "b0 0 4 0 0 0;", 2, 12);
-        wrong(LAW + "b0 0 0 301 0 0;", 2, 14);
-        wrong(LAW + "b0 0 0 0 301 0;", 2, 16);
-        wrong(LAW + "b0 0 0 0 0 301;", 2, 18);
-        wrong(LAW + "p100 1 0 0;", 2, 8);
-        wrong(LAW + "p0 0 0 0;", 2, 10);
-        wrong(LAW + "p0 21 0 0;", 2, 10);
-        wrong(LAW + "p0 1 10 0;", 2, 12);
-        wrong(LAW + "p0 1 0 2;", 2, 14);
-        wrong(LAW + "c0;", 2, 8);
-        wrong(LAW + "c1000;", 2, 8);
+        Due.wrong("l0 1 1;", 2, 1);
+        Due.wrong("l21 1 1;", 2, 1);
+        Due.wrong("l1 0 1;", 2, 3);
+        Due.wrong("l1 21 1;", 2, 3);
+        Due.wrong("l1 1 0;", 2, 5);
+        Due.wrong("l1 1 21;", 2, 5);
+        Due.wrong("l0001 1 1;", 2, 1);
+        Due.wrong("l1 1 0000000001;", 2, 5);
+        Due.wrong("l1 1 4294967297;", 2, 5);
+        Due.wrong(LAW + "b100 0 0 0 0 0;", 2, 8);
+        Due.wrong(LAW + "b0 2 0 0 0 0;", 2, 10);
+        Due.wrong(LAW + "b0 0 4 0 0 0;", 2, 12);
+        Due.wrong(LAW + "b0 0 0 301 0 0;", 2, 14);
+        Due.wrong(LAW + "b0 0 0 0 301 0;", 2, 16);
+        Due.wrong(LAW + "b0 0 0 0 0 301;", 2, 18);
+        Due.wrong(LAW + "p100 1 0 0;", 2, 8);
+        Due.wrong(LAW + "p0 0 0 0;", 2, 10);
+        Due.wrong(LAW + "p0 21 0 0;", 2, 10);
+        Due.wrong(LAW + "p0 1 10 0;", 2, 12);
+        Due.wrong(LAW + "p0 1 0 2;", 2, 14);
+        Due.wrong(LAW + "c0;", 2, 8);
+        Due.wrong(LAW + "c1000;", 2, 8);
     }
 
     private static void tooMany() {
-        wrong(LAW + "l1 1 1;", 3, 7);
-        wrong(LAW + " l", 3, 8);
-        wrong(LAW + "c1;c1;", 3, 10);
-        wrong(LAW + "c1; c", 3, 11);
+        Due.wrong(LAW + "l1 1 1;", 3, 7);
+        Due.wrong(LAW + " l", 3, 8);
+        Due.wrong(LAW + "c1;c1;", 3, 10);
+        Due.wrong(LAW + "c1; c", 3, 11);
         String bushes = BUSH + BUSH + BUSH + BUSH + BUSH + BUSH;
-        wrong(LAW + bushes + "b", 3, 7 + 6 * BUSH.length());
+        Due.wrong(LAW + bushes + "b", 3, 7 + 6 * BUSH.length());
         String pickers = PICKER + PICKER + PICKER + PICKER;
-        wrong(LAW + pickers + "p0 1 0 0;", 3, 7 + 4 * PICKER.length());
+        Due.wrong(LAW + pickers + "p0 1 0 0;", 3, 7 + 4 * PICKER.length());
     }
 
     private static void firstFaultWins() {
-        wrong("l1 1 1 1000;", 1, 7);
-        wrong("l21x", 2, 1);
-        wrong("l1000x", 2, 1);
-        wrong(LAW + "c0;c1;", 2, 8);
-        wrong(LAW + "b0 0 9 x", 2, 12);
-        wrong(LAW + LAW + "x", 3, 7);
+        Due.wrong("l1 1 1 1000;", 1, 7);
+        Due.wrong("l21x", 2, 1);
+        Due.wrong("l1000x", 2, 1);
+        Due.wrong(LAW + "c0;c1;", 2, 8);
+        Due.wrong(LAW + "b0 0 9 x", 2, 12);
+        Due.wrong(LAW + LAW + "x", 3, 7);
     }
 
     private static void faultChangesNothing() {
@@ -254,12 +238,12 @@ public final class TextTest {
     }
 
     private static void longestTexts() {
-        right(" ".repeat(223) + LAW, 0);
-        right(LAW + " ".repeat(223), 0);
-        wrong(" ".repeat(224) + "l1 1 1", 1, 230);
-        wrong("l1 1 1" + " ".repeat(224), 1, 230);
-        wrong(" ".repeat(229) + "l", 1, 230);
-        wrong("l1 1 " + "1".repeat(225), 2, 5);
+        Due.right(" ".repeat(223) + LAW, 0);
+        Due.right(LAW + " ".repeat(223), 0);
+        Due.wrong(" ".repeat(224) + "l1 1 1", 1, 230);
+        Due.wrong("l1 1 1" + " ".repeat(224), 1, 230);
+        Due.wrong(" ".repeat(229) + "l", 1, 230);
+        Due.wrong("l1 1 " + "1".repeat(225), 2, 5);
     }
 
     private static void toldOf() {
