@@ -37,6 +37,7 @@ public final class EdgesOfDoneTest {
         drawsOfBushes();
         drawsOfSix();
         drawsOfFour();
+        callsOfAnObject();
         Due.end("EdgesOfDoneTest");
     }
 
@@ -587,5 +588,39 @@ public final class EdgesOfDoneTest {
             seen |= 1 << rain;
         }
         Due.is("0 to 3 were drawn", seen, 15);
+    }
+
+    private static void callsOfAnObject() {
+        Due.sentence("An object is used for at most 512 calls after it has been made");
+        String text = "l20 20 20;b0 0 0 300 300 0;b99 1 0 300 300 0;p0 20 9 0;";
+        BerryLane days = new BerryLane();
+        Due.feed(days, text);
+        days.lane();
+        int calls = text.length() + 1;
+        for (; calls < 511; calls++) {
+            days.day(99, false);
+        }
+        Due.is("THE DAY in the 512th call", days.told(7), 99 * (511 - text.length() - 1));
+        BerryLane ways = new BerryLane();
+        Due.feed(ways, text);
+        ways.lane();
+        int clock = 0;
+        for (calls = text.length() + 1; calls < 512; calls++) {
+            clock += 11 * Math.min(1, calls - text.length() - 1);
+            Due.is("CLOCK", ways.go(0, calls % 2 == text.length() % 2 ? 1 : 0), clock);
+        }
+        BerryLane drifts = new BerryLane();
+        BerryLane one = new BerryLane();
+        Due.feed(drifts, text);
+        Due.feed(one, text);
+        drifts.lane();
+        one.lane();
+        for (calls = text.length() + 1; calls < 512; calls++) {
+            int ripe = drifts.drift(99);
+            for (int i = 0; i < 99; i++) {
+                one.drift(1);
+            }
+            Due.is("RIPE in all", ripe, one.told(8));
+        }
     }
 }

@@ -385,6 +385,11 @@ public final class EdgesOfSeenTest {
         x.write(0, 0, 1);
         Due.is("nothing is left there", x.judge(), 9);
         Due.is("RIPE is as it was", x.bush(0, 4), 6);
+        BerryLane six = Due.lane(LAW + "b0 0 0 0 6 0;".repeat(6) + "p0 9 0 0;");
+        for (int i = 0; i < 12; i++) {
+            six.write(0, i % 6, i < 6 ? 2 : 1);
+            Due.is("six bushes, so far", six.judge(), NONE);
+        }
     }
 
     private static void judgeFromNow() {

@@ -164,7 +164,7 @@ public final class EdgesOfTextTest {
     }
 
     private static void theLawComesFirst() {
-        Due.sentence("(first, once) .. another word first than 'l'");
+        Due.sentence("first, once) .. another word first than 'l'");
         Due.wrong(BUSH + LAW, 1, 0);
         Due.wrong(PICKER + LAW, 1, 0);
         Due.wrong("c1;" + LAW, 1, 0);
@@ -192,7 +192,7 @@ public final class EdgesOfTextTest {
     }
 
     private static void sixBushes() {
-        Due.sentence("6 BUSHES at most .. a seventh 'b' (at it)");
+        Due.sentence("6 BUSHES at most .. a seventh 'b'");
         Due.right(LAW + BUSH.repeat(5), 5);
         BerryLane x = Due.right(LAW + BUSH.repeat(5) + "b7 1 3 4 5 6;", 6);
         Due.is("yard of the sixth", x.bush(5, 0), 7);

@@ -11,12 +11,15 @@ public final class EdgesOfTriedTest {
 
     public static void main(String[] args) {
         nothingChanges();
+        askedAgain();
+        theLaneBeforeIsGone();
         lengthRates();
         lengthIsMoreThanTheRate();
         lengthSixtyAtMost();
         cansWithoutEnd();
         bestMoments();
         bestTimeIsJustEnough();
+        bestWaysFarApart();
         bestEachBushOnce();
         bestNoneMoreAhead();
         bestLesserBushAhead();
@@ -81,6 +84,46 @@ public final class EdgesOfTriedTest {
         return x;
     }
 
+    private static int[] answers(BerryLane x, int p, int b, int t) {
+        int other = (p + 1) % x.told(4);
+        return new int[] {x.length(p, b, 0), x.best(p, t, NONE, 0), x.best(p, t, 0, 0), x.best(p, t, 0, 1),
+            x.best(p, t, 1, 0), x.best(p, t, 1, 1), x.where(t % 20 + 1, NONE), x.where(t % 20 + 1, p),
+            x.rivals(p, other, t % 20 + 1, 0), x.rivals(p, other, t % 20 + 1, 1), x.rivals(p, other, t % 20 + 1, 2),
+            x.again(b, t, 0), x.again(b, t, 1), x.odds(b, 5, t % 8 + 1, t), x.whom(t, 0), x.whom(t, 1)};
+    }
+
+    private static void asOf(String name, BerryLane x, String text) {
+        for (int p = 0; p < x.told(4); p++) {
+            for (int b = 0; b < x.told(3); b++) {
+                for (int t : new int[] {24, 1, 12, 5}) {
+                    int[] due = answers(Due.lane(text), p, b, t);
+                    int[] got = answers(x, p, b, t);
+                    for (int i = 0; i < due.length; i++) {
+                        Due.is(name + ": answer " + i + " of " + p + ", " + b + ", " + t, got[i], due[i]);
+                    }
+                }
+            }
+        }
+    }
+
+    private static final String SIX = "l4 5 2;b99 1 0 90 9 0;b0 0 3 300 300 0;b25 1 1 99 40 0;b40 0 2 50 7 3;b9 0 0 9 21 0;b60 1 3 80 90 0;"
+            + "p10 8 2 0;p0 12 0 1;p99 7 1 0;";
+
+    private static void askedAgain() {
+        Due.sentence("TRIED from now; nothing changes by it.");
+        asOf("asked again and again", Due.lane(SIX), SIX);
+    }
+
+    private static void theLaneBeforeIsGone() {
+        Due.sentence("becomes THE LANE");
+        String two = "l9 9 9;b5 0 0 30 9 0;b5 0 0 20 8 0;p0 3 0 0;p0 4 0 0;";
+        BerryLane x = Due.lane(SIX);
+        answers(x, 0, 0, 24);
+        Due.feed(x, two);
+        x.lane();
+        asOf("two bushes behind six", x, two);
+    }
+
     // ---- length
 
     private static int length(int kind, int ripe, int q, int e, int r) {
@@ -98,7 +141,7 @@ public final class EdgesOfTriedTest {
     }
 
     private static void lengthIsMoreThanTheRate() {
-        Due.sentence("how many HANDFULS each give more to the CAN than r a MOMENT, one behind the other, till one does not");
+        Due.sentence("how many HANDFULS each give more to the CAN .. than r a MOMENT, one behind the other, till one does not");
         // 20 and 16, 13, 10 (64 less 13 is 51: 11), 40: 8
         Due.is("of 80, 16 is not more than 16", length(0, 80, 20, 0, 16), 0);
         Due.is("of 80, 16 is more than 15", length(0, 80, 20, 0, 15), 1);
@@ -193,6 +236,29 @@ public final class EdgesOfTriedTest {
         way(on, 1, 1, 0, 1);
         way(on, 2, 1, 0, 1);
         way(on, 3, 2, 0, 1, 1, 1);
+    }
+
+    private static void bestWaysFarApart() {
+        Due.sentence("he goes from BUSH to BUSH .. the most that comes to the CAN");
+        // each gives 2, 2, 2, 1, 1, 1, 1; a handful by the wasps and the way to the next one take 2 each
+        BerryLane x = Due.lane(LAW + "b0 0 3 0 10 0;b20 0 0 0 10 0;b40 0 0 0 10 0;p0 20 0 0;");
+        way(x, 16, 18, 0, 1, 1, 3, 2, 7);
+        way(x, 18, 20, 0, 1, 1, 5, 2, 7);
+        way(x, 24, 26, 0, 3, 1, 7, 2, 7);
+        way(x, 10, 12, 1, 3, 2, 3);
+        // there and back: 50 yards between, 10 and 40 from where he is
+        BerryLane back = Due.lane(LAW + "b90 0 0 0 300 0;b40 0 0 0 6 0;p50 4 0 0;");
+        way(back, 5, 5, 1, 4);
+        way(back, 6, 8, 0, 2);
+        way(back, 8, 16, 0, 4);
+        way(back, 9, 20, 0, 5);
+        // 4, 3, 2, 2, 1 .. where he is, 3, 2, 2, 1 .. ten yards on
+        BerryLane on = Due.lane(LAW + "b0 0 0 0 1 0;b99 0 0 0 16 0;b89 0 0 0 11 0;p99 5 0 0;");
+        way(on, 4, 11, 1, 4);
+        way(on, 6, 14, 1, 2, 2, 3);
+        BerryLane wasps = Due.lane(LAW + "b30 0 3 0 300 0;b40 0 3 0 300 0;b50 0 0 0 5 0;p30 6 0 0;");
+        way(wasps, 8, 24, 0, 4);
+        way(wasps, 9, 24, 0, 1, 1, 3);
     }
 
     private static void bestEachBushOnce() {
@@ -416,12 +482,13 @@ public final class EdgesOfTriedTest {
      * other one is at it: more than four turns never change anything, and the 16th is never met.
      */
     private static void rivalsTurns() {
-        Due.sentence("By turns, a first, each takes the BUSH by which he has most, the other one staying, till both stay");
+        Due.sentence("By turns, a first, each takes the BUSH by which he has most, the other one staying .. till both stay");
         settle("no turn", Due.lane(LAW + "b0 0 0 0 300 0;b0 0 0 0 1 0;p0 5 0 0;p0 5 0 0;"), 5, 0, 0, 0);
         settle("one turn, of a", Due.lane(LAW + "b0 0 0 0 5 0;b0 0 0 0 5 0;p0 5 0 0;p0 5 0 0;"), 5, 1, 1, 0);
         settle("one turn, of b", Due.lane(LAW + "b0 0 0 0 16 0;b0 0 0 0 16 0;p0 5 0 0;p0 5 0 0;"), 1, 1, 0, 1);
         settle("two turns", Due.lane(LAW + "b0 0 0 0 5 0;b0 0 0 0 300 0;p0 5 0 0;p0 5 0 0;"), 5, 2, 1, 1);
         settle("three turns", Due.lane(LAW + "b0 0 1 0 29 0;b0 0 1 0 1 0;b0 0 0 0 32 0;p0 18 1 1;p0 4 2 0;"), 4, 3, 0, 2);
+        settle("six bushes", Due.lane(LAW + "b0 0 0 0 5 0;".repeat(5) + "b0 0 0 0 300 0;p0 5 0 0;p0 5 0 0;"), 20, 2, 5, 5);
         settle("four turns", Due.lane(LAW + "b0 0 0 0 21 0;b0 0 1 0 31 0;b0 0 0 0 8 0;b0 0 1 0 23 0;p0 8 0 0;p0 6 1 1;"), 8, 4, 0, 1);
     }
 
@@ -445,7 +512,7 @@ public final class EdgesOfTriedTest {
         again("to the fourth", x, 5, 4, 4);
         again("to the fourth", x, 29, 4, 4);
         again("to the fourth", x, 30, 4, 4);
-        // the latest that there is of all lanes: on the 27th day
+        // no lane has a later one: on the 27th day
         BerryLane late = Due.lane("l20 20 1;b0 0 2 175 0 0;");
         int most = 0;
         int day = 0;
@@ -456,7 +523,7 @@ public final class EdgesOfTriedTest {
             most = Math.max(most, ripe);
             again("late", late, n, day, most);
         }
-        Due.is("late enough", day > 20 ? 1 : 0, 1);
+        Due.is("the 27th", day, 27);
         again("today", Due.lane("l1 1 1;b0 0 0 299 300 0;"), 30, 0, 300);
         again("tomorrow", Due.lane("l1 20 1;b0 0 0 300 1 0;"), 30, 1, 301);
     }

@@ -935,11 +935,10 @@ public final class BerryLane {
         }
 
         private int mostBeyond(int beenAt, int from, int time) {
-            int open = (1 << bushCount) - 1 & ~beenAt;
             int top = 0;
-            for (int set = open; set > 0; set = set - 1 & open) {
+            for (int set = 1; set < 1 << bushCount; set++) {
                 int rest = time - shortest[from * SETS + set];
-                if (rest >= 0) {
+                if ((set & beenAt) == 0 && rest >= 0) {
                     top = Math.max(top, gathered[set * TIMES + rest]);
                 }
             }
